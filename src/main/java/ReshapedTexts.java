@@ -187,7 +187,7 @@ public final class ReshapedTexts {
         if (order < 0 || order > 1 || place < 0) {
             return INVALID_ARGUMENT;
         }
-        trial.becomeEndOf(now, order == 1);
+        trial.copyEndOf(now, order == 1);
         return place < trial.text.size() ? trial.text.at(place) : NOT_FOUND;
     }
 
@@ -195,8 +195,8 @@ public final class ReshapedTexts {
         if (what < 0 || what > 3) {
             return INVALID_ARGUMENT;
         }
-        upwards.becomeEndOf(now, false);
-        downwards.becomeEndOf(now, true);
+        upwards.copyEndOf(now, false);
+        downwards.copyEndOf(now, true);
         switch (what) {
             case 0:
                 return upwards.text.size();
@@ -251,7 +251,7 @@ public final class ReshapedTexts {
         if (what < 0 || what > 2) {
             return INVALID_ARGUMENT;
         }
-        trial.become(now);
+        trial.copyState(now);
         commands.runOn(trial);
         if (commands.reason == 0 || (what == 2 && commands.reason == WRONG_FORM)) {
             return NOT_FOUND;
@@ -263,14 +263,14 @@ public final class ReshapedTexts {
     }
 
     public int play() {
-        trial.become(now);
+        trial.copyState(now);
         commands.runOn(trial);
         if (commands.reason != 0) {
             return NOT_POSSIBLE;
         }
         past.prepare(now);
         past.keep();
-        now.become(trial);
+        now.copyState(trial);
         return commands.done;
     }
 
@@ -344,7 +344,7 @@ public final class ReshapedTexts {
             size = 0;
         }
 
-        void become(Numbers other) {
+        void copyNumbers(Numbers other) {
             int length = Math.min(other.size, Math.min(other.cells.length, cells.length));
             for (int i = 0; i < length; i++) {
                 cells[i] = other.cells[i];
@@ -559,7 +559,7 @@ public final class ReshapedTexts {
             return waiting.size() == 0 && heard >= log.size();
         }
 
-        void begin() {
+        void forget() {
             copy.empty();
             waiting.empty();
             backs.empty();
@@ -569,10 +569,10 @@ public final class ReshapedTexts {
             written = 0;
         }
 
-        void become(Editor other) {
-            copy.become(other.copy);
-            waiting.become(other.waiting);
-            backs.become(other.backs);
+        void copyEditor(Editor other) {
+            copy.copyNumbers(other.copy);
+            waiting.copyNumbers(other.waiting);
+            backs.copyNumbers(other.backs);
             underWay = other.underWay;
             heard = other.heard;
             spot = other.spot;
@@ -683,25 +683,25 @@ public final class ReshapedTexts {
         }
 
         void begin() {
-            first.begin();
-            second.begin();
-            third.begin();
+            first.forget();
+            second.forget();
+            third.forget();
             log.empty();
             text.empty();
             writers.empty();
         }
 
-        void become(State other) {
-            first.become(other.first);
-            second.become(other.second);
-            third.become(other.third);
-            log.become(other.log);
-            text.become(other.text);
-            writers.become(other.writers);
+        void copyState(State other) {
+            first.copyEditor(other.first);
+            second.copyEditor(other.second);
+            third.copyEditor(other.third);
+            log.copyNumbers(other.log);
+            text.copyNumbers(other.text);
+            writers.copyNumbers(other.writers);
         }
 
-        void becomeEndOf(State other, boolean lastFirst) {
-            become(other);
+        void copyEndOf(State other, boolean lastFirst) {
+            copyState(other);
             for (int i = 0; i < EDITORS; i++) {
                 Editor editor = editor(lastFirst ? EDITORS - 1 - i : i);
                 // Each turn takes one change from the row, and one more hears what is left.
@@ -763,7 +763,7 @@ public final class ReshapedTexts {
 
         /** Writes a state down that counts only when it is kept: the call may still fail. */
         void prepare(State now) {
-            spare.become(now);
+            spare.copyState(now);
         }
 
         void keep() {
@@ -778,7 +778,7 @@ public final class ReshapedTexts {
 
         void restore(State now) {
             State used = newest;
-            now.become(used);
+            now.copyState(used);
             newest = second;
             second = third;
             third = oldest;
