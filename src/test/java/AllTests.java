@@ -1,9 +1,9 @@
 /** Runs every test of the project; ends with exit code 1 if one fails. */
 public final class AllTests {
-    /** The one argument is the path of the program's source. */
+    /** The arguments are the paths of the program's source and of the document. */
     public static void main(String[] args) {
         Checks checks = new Checks();
-        PromiseTests.run(checks);
+        SentenceRunner.run(checks, args.length > 1 ? args[1] : "../shared/DOC.md");
         LanguageTest.run(checks, args.length > 0 ? args[0] : "src/main/java/ReshapedTexts.java");
         RoomTest.run(checks);
         ModelTest.run(checks);

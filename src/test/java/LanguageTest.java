@@ -23,6 +23,10 @@ final class LanguageTest {
     private static final String[] FACE = {"insert", "delete", "takeBack", "mark", "send", "hear",
         "hearAll", "clear", "letter", "editorOf", "waitingOf", "logOf", "by", "count", "inTheEnd",
         "both", "wouldSend", "undo", "type", "clearText", "fault", "play"};
+    // What the interface says ahead of calls, and the first and the last one of these.
+    private static final String[][] GROUPS = {{"writing", "insert", "mark"},
+        {"sending, hearing", "send", "clear"}, {"what there is", "letter", "count"},
+        {"what would be", "inTheEnd", "undo"}, {"texts", "type", "play"}};
     private static final Pattern HEAD = Pattern.compile(
             "^ {4,8}(?:(?:public|private|static) )*(?:\\w+ )?(\\w+)\\([^;]*\\{?$");
     private static final int MOST_LINES = 60;
@@ -93,12 +97,26 @@ final class LanguageTest {
         }
     }
 
+    /** The document, under "Changes and errors": what stands ahead of which calls. */
+    private void groups(String text) {
+        int behind = 0;
+        for (String[] group : GROUPS) {
+            int said = text.indexOf("    // ---- " + group[0] + "\n");
+            int first = text.indexOf("    public int " + group[1] + "(");
+            int last = text.indexOf("    public int " + group[2] + "(");
+            checks.holds("\"" + group[0] + "\" stands ahead of " + group[1],
+                    said > behind && first > said && !text.substring(said, first).contains("}"));
+            behind = last;
+        }
+    }
+
     private static String withoutComments(List<String> lines) {
         return String.join("\n", lines).replaceAll("(?s)/\\*.*?\\*/", "")
                 .replaceAll("//[^\n]*", "");
     }
 
     private void source(List<String> lines) {
+        groups(String.join("\n", lines));
         String code = withoutComments(lines);
         for (String word : FORBIDDEN) {
             boolean isWord = Character.isLetter(word.charAt(0)) && !word.contains(" ");

@@ -1,9 +1,12 @@
+import java.util.ArrayList;
+import java.util.Arrays;
+import java.util.List;
 import java.util.TreeMap;
 
 /** Long runs of mixed calls: the program has to answer each of them as the plain model does. */
 final class ModelTest {
-    private static final int RUNS = 400;
-    private static final int CALLS = 512;
+    private static final int RUNS = 3000;
+    private static final int MOST_FAILED = 20;
     private static final String[] NAMES = {"insert", "delete", "takeBack", "mark", "send", "hear",
         "hearAll", "clear", "letter", "editorOf", "waitingOf", "logOf", "by", "count", "inTheEnd",
         "both", "wouldSend", "undo", "type", "clearText", "fault", "play"};
@@ -11,7 +14,7 @@ final class ModelTest {
     private final Checks checks;
     private final TreeMap<String, Integer> seen = new TreeMap<>();
     private long seed;
-    private ReshapedTexts program;
+    private Texts program;
     private PlainModel model;
     // How this run leans: what it mostly does, so that every limit is met in some run.
     private int lean;
@@ -23,7 +26,7 @@ final class ModelTest {
 
     static void run(Checks checks) {
         ModelTest test = new ModelTest(checks);
-        for (int run = 0; run < RUNS && checks.failed() < 20; run++) {
+        for (int run = 0; run < RUNS && checks.failed() < MOST_FAILED; run++) {
             test.oneRun(run);
         }
         test.everythingWasSeen();
@@ -38,14 +41,14 @@ final class ModelTest {
         seed = run * 7919L + 17;
         lean = run % 4;
         planned = "";
-        program = new ReshapedTexts();
+        program = new Texts();
         model = new PlainModel();
-        for (int call = 0; call < CALLS && checks.failed() < 20; call++) {
+        // Short runs leave calls to ask for all there is then, long ones come to the limits.
+        int calls = run % 8 < 4 ? below(Texts.MOST_CALLS - 100) : Texts.MOST_CALLS - below(100);
+        for (int call = 0; call < calls && checks.failed() < MOST_FAILED; call++) {
             oneCall("run " + run + " call " + call);
-            if (call % 8 == 7) {
-                allThatIsThere("run " + run + " behind call " + call);
-            }
         }
+        allThatIsThere("run " + run + " behind " + calls + " calls");
     }
 
     private int editor() {
@@ -175,7 +178,7 @@ final class ModelTest {
     }
 
     private int asked(boolean ofProgram, int call, int[] a) {
-        ReshapedTexts p = program;
+        Texts p = program;
         PlainModel m = model;
         switch (call) {
             case 0:
@@ -225,53 +228,59 @@ final class ModelTest {
         }
     }
 
-    private void same(String where, int call, int first, int second, int third) {
-        int[] a = {first, second, third};
-        checks.due(where + ": " + NAMES[call] + "(" + first + ", " + second + ", " + third + ")",
-                asked(true, call, a), asked(false, call, a));
+    /** Asks for what there is, in any order, as long as calls are left. */
+    private void allThatIsThere(String where) {
+        List<int[]> questions = questions();
+        while (!questions.isEmpty() && program.calls() < Texts.MOST_CALLS
+                && checks.failed() < MOST_FAILED) {
+            int[] q = questions.remove(below(questions.size()));
+            int[] a = {q[1], q[2], q[3]};
+            checks.due(where + ": " + NAMES[q[0]] + Arrays.toString(a), asked(true, q[0], a),
+                    asked(false, q[0], a));
+        }
     }
 
-    private void allThatIsThere(String where) {
+    private List<int[]> questions() {
+        List<int[]> all = new ArrayList<>();
         for (int what = 0; what <= 6; what++) {
-            same(where, 13, what, 0, 0);
-        }
-        for (int what = 0; what <= 2; what++) {
-            same(where, 20, what, 0, 0);
+            all.add(new int[] {13, what, 0, 0});
         }
         for (int what = 0; what <= 3; what++) {
-            same(where, 15, what, 0, 0);
+            all.add(new int[] {20, what, 0, 0});
+            all.add(new int[] {15, what, 0, 0});
         }
         for (int editor = 0; editor < 3; editor++) {
             for (int what = 0; what <= 8; what++) {
-                same(where, 9, editor, what, 0);
+                all.add(new int[] {9, editor, what, 0});
             }
             for (int index = 0; index <= model.editorOf(editor, 1); index++) {
                 for (int what = 0; what <= 2; what++) {
-                    same(where, 10, editor, index, what);
+                    all.add(new int[] {10, editor, index, what});
                 }
             }
-            same(where, 16, editor, 0, 0);
-            same(where, 16, editor, 1, 0);
+            all.add(new int[] {16, editor, 0, 0});
+            all.add(new int[] {16, editor, 1, 0});
         }
         for (int whose = 0; whose <= 3; whose++) {
             int length = whose == 3 ? model.count(1) : model.editorOf(whose, 0);
             for (int place = 0; place <= length; place++) {
-                same(where, 8, whose, place, 0);
+                all.add(new int[] {8, whose, place, 0});
             }
         }
         for (int place = 0; place <= model.count(1); place++) {
-            same(where, 12, place, 0, 0);
+            all.add(new int[] {12, place, 0, 0});
         }
         for (int index = Math.max(model.count(0) - 4, 0); index <= model.count(0); index++) {
             for (int what = 0; what <= 3; what++) {
-                same(where, 11, index, what, 0);
+                all.add(new int[] {11, index, what, 0});
             }
         }
         for (int order = 0; order <= 1; order++) {
-            for (int place = 0; place <= model.both(order); place += 1 + below(4)) {
-                same(where, 14, order, place, 0);
+            for (int place = 0; place <= model.both(order); place++) {
+                all.add(new int[] {14, order, place, 0});
             }
         }
+        return all;
     }
 
     /** The runs are worth something only if they come to the rare answers, too. */
