@@ -217,6 +217,27 @@ final class ChangeTests extends SentenceTests {
         reshaped(PUT_IN, 0, PUT_IN, LENGTH, 100);
     }
 
+    @Sentence(of = "Terms", says = "the editor of b has a lower number than that of a")
+    void termsPutInByAnOwnPutInAtTheSamePlaceStays() {
+        // The b is to be put in again at place 1, where z was put in then; so it stands ahead of
+        // y, if y stands there by a higher number, and behind it otherwise.
+        for (int editor = 0; editor < 3; editor += 2) {
+            anew();
+            common(1, "abc");
+            x.delete(editor, 1);
+            x.insert(editor, 1, 25);
+            flush(editor);
+            x.hearAll(1);
+            x.insert(1, 1, 24);
+            x.send(1);
+            x.hear(editor);
+            text(editor, "ayzc");
+            x.takeBack(editor);
+            due("put in again", x.takeBack(editor), 1);
+            text(editor, editor < 1 ? "abyc" : "aybc");
+        }
+    }
+
     @Sentence(of = "Terms", says = "- a puts in at p, b takes out at q: if q is below p, a puts in "
             + "at p - 1;")
     void termsPutInByTakeOutBelow() {

@@ -60,6 +60,8 @@ final class CommandTests extends SentenceTests {
                 due("position", x.fault(0), 0);
                 typed((char) sign + "0,0,0;");
                 due("reason of " + (char) sign + "0,0,0;", x.fault(1), 1);
+                typed((char) sign + "0,0;");
+                due("reason of " + (char) sign + "0,0;", x.fault(1), 1);
                 typed((char) sign + ";");
                 due("reason of " + (char) sign + ";", x.fault(1), 1);
             }

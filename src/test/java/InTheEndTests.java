@@ -74,6 +74,22 @@ final class InTheEndTests extends SentenceTests {
         due("all copies are the same then", x.both(3), 1);
     }
 
+    @Sentence(of = "In the end", says = "then all is heard), then the editor 1, then 2;")
+    void inTheEndAllOfTheFirstEditorIsSentBeforeTheOthers() {
+        // The m is taken out by the second change of the first editor, and still ahead of what
+        // the others put in; otherwise it would be "ab".
+        for (int order = 0; order <= 1; order++) {
+            anew();
+            common(1, "mx");
+            x.delete(2 * order, 1);
+            x.delete(2 * order, 0);
+            x.insert(order == 0 ? 1 : 0, 1, 1);
+            x.insert(order == 0 ? 2 : 1, 0, 0);
+            end(order, "ba");
+            end(1 - order, "ab");
+        }
+    }
+
     @Sentence(of = "In the end", says = "if the first one is not under way, it is sent;")
     void inTheEndOneUnderWayIsNotSentAgain() {
         write(0, 0, "ab");

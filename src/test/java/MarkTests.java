@@ -14,6 +14,18 @@ final class MarkTests extends SentenceTests {
         due("of another editor", x.editorOf(1, 5), 0);
     }
 
+    @Sentence(of = "Marks", says = "The mark of an editor is a place of its copy, 0 to its length.")
+    void marksAreToTheLengthAlsoOfMoreThan30Letters() {
+        write(1, 0, "uvwxyz");
+        publish(0, 0, "abcdefghijklmnopqrstuvwxyzabcd");
+        x.hearAll(1);
+        due("behind 36 letters", x.editorOf(1, 5), 36);
+        due("to 37 of 36", x.mark(1, 37), INVALID);
+        due("to 36 of 36", x.mark(1, 36), 36);
+        due("to 35", x.mark(1, 35), 36);
+        due("from 35", x.mark(1, 0), 35);
+    }
+
     private void markedAt2() {
         anew();
         common(1, "abcd");

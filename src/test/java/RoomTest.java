@@ -1,84 +1,56 @@
 import com.sun.management.ThreadMXBean;
 import java.lang.management.ManagementFactory;
-import java.lang.reflect.Array;
-import java.lang.reflect.Field;
-import java.lang.reflect.Modifier;
-import java.util.ArrayDeque;
-import java.util.Collections;
-import java.util.Deque;
-import java.util.IdentityHashMap;
-import java.util.Set;
+import java.util.function.ToIntFunction;
 
-/** The room that all calls of one run live in: what an object takes, and that no call takes more. */
+/** The room that all calls of one run live in: as much as 7.3 million ints take, at most. */
 final class RoomTest {
-    private static final int MOST_OBJECTS = 400;
-    private static final int MOST_ELEMENTS = 10000;
-    // Of 27 calls each.
-    private static final int ROUNDS = 16;
-    // The reading itself may take a little.
-    private static final long MOST_BYTES = 4096;
+    private static final long MOST_BYTES = 7_300_000L * 4;
+
+    private final Checks checks;
+    private final ThreadMXBean bean = (ThreadMXBean) ManagementFactory.getThreadMXBean();
+    private final long thread = Thread.currentThread().getId();
+
+    private RoomTest(Checks checks) {
+        this.checks = checks;
+    }
 
     static void run(Checks checks) {
-        try {
-            objects(checks);
-        } catch (IllegalAccessException e) {
-            checks.holds("fields can be read", false);
-        }
-        calls(checks);
+        RoomTest test = new RoomTest(checks);
+        test.taken("insert", x -> x.insert(0, 0, 0));
+        test.taken("clear", Texts::clear);
+        test.taken("hearAll", x -> x.hearAll(1) + x.undo());
+        test.taken("letter", x -> x.letter(3, 0));
+        test.taken("inTheEnd", x -> x.inTheEnd(1, 0));
+        test.taken("both", x -> x.both(3));
+        test.taken("wouldSend", x -> x.wouldSend(1, 1));
+        test.taken("fault", x -> x.fault(0));
+        test.taken("play", Texts::play);
     }
 
-    private static void objects(Checks checks) throws IllegalAccessException {
-        Set<Object> seen = Collections.newSetFromMap(new IdentityHashMap<>());
-        Deque<Object> open = new ArrayDeque<>();
-        open.add(new ReshapedTexts());
-        long elements = 0;
-        while (!open.isEmpty()) {
-            Object o = open.remove();
-            if (!seen.add(o)) {
-                continue;
-            }
-            if (o.getClass().isArray()) {
-                elements += Array.getLength(o);
-                continue;
-            }
-            for (Field f : o.getClass().getDeclaredFields()) {
-                if (Modifier.isStatic(f.getModifiers())) {
-                    continue;
-                }
-                elements++;
-                f.setAccessible(true);
-                if (!f.getType().isPrimitive() && f.get(o) != null) {
-                    open.add(f.get(o));
-                }
-            }
+    /** A full log, rows that are full, a full text of commands; then one call as long as it goes. */
+    private long bytesOf(ToIntFunction<Texts> call) {
+        long before = bean.getThreadAllocatedBytes(thread);
+        Texts x = new Texts();
+        for (int i = 0; i < 60; i++) {
+            int done = i % 2 == 0 ? x.insert(0, 0, 1) : x.delete(0, 0);
+            done += x.send(0) + x.hear(0);
         }
-        checks.holds("objects: " + seen.size(), seen.size() <= MOST_OBJECTS);
-        checks.holds("fields and elements: " + elements, elements <= MOST_ELEMENTS);
+        for (int i = 0; i < 18; i++) {
+            x.insert(i / 6, 0, 2);
+        }
+        for (int i = 0; i < 60; i++) {
+            x.type("h1;".charAt(i % 3));
+        }
+        while (x.calls() < Texts.MOST_CALLS - 1) {
+            call.applyAsInt(x);
+        }
+        return bean.getThreadAllocatedBytes(thread) - before;
     }
 
-    private static void calls(Checks checks) {
-        ThreadMXBean bean = (ThreadMXBean) ManagementFactory.getThreadMXBean();
-        long id = Thread.currentThread().getId();
-        work(new ReshapedTexts());
-        ReshapedTexts x = new ReshapedTexts();
-        long before = bean.getThreadAllocatedBytes(id);
-        int sum = work(x);
-        long taken = bean.getThreadAllocatedBytes(id) - before;
-        checks.holds("bytes that the calls take: " + taken, taken <= MOST_BYTES);
-        checks.holds("the calls do something", sum > 0);
-    }
-
-    private static int work(ReshapedTexts x) {
-        int sum = 0;
-        for (int i = 0; i < ROUNDS; i++) {
-            sum += x.clear() + x.clearText();
-            for (int editor = 0; editor < 3; editor++) {
-                sum += x.insert(editor, 0, editor) + x.insert(editor, 1, editor) + x.send(editor);
-            }
-            sum += x.hearAll(0) + x.hear(1) + x.delete(1, 0) + x.takeBack(1) + x.mark(1, 1);
-            sum += x.type('h') + x.type('2') + x.type(';') + x.fault(0) + x.play() + x.undo();
-            sum += x.both(2) + x.both(3) + x.inTheEnd(1, 0) + x.wouldSend(0, 1) + x.count(4);
-        }
-        return sum;
+    private void taken(String name, ToIntFunction<Texts> call) {
+        bytesOf(call);
+        long bytes = bytesOf(call);
+        checks.holds("a run with much " + name + " takes " + bytes + " bytes",
+                bytes <= MOST_BYTES);
     }
 }
