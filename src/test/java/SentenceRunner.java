@@ -49,6 +49,10 @@ final class SentenceRunner {
                 }
             }
         }
+        if (!Files.exists(Path.of(document))) {
+            System.out.println(document + " is not there: no sentences are compared with it");
+            return;
+        }
         try {
             runner.compare(sectionsOf(Files.readAllLines(Path.of(document))));
         } catch (IOException e) {
